@@ -91,6 +91,15 @@ public final class ModelTest {
             & same("fault()", x -> x.fault(), x -> x.fault());
     }
 
+    /** Most runs should have something to move. */
+    private boolean startingBelt() {
+        boolean fine = true;
+        for (int tries = 0; fine && tries < 20 && (plain.sides.isEmpty() || plain.wares.isEmpty()); tries++) {
+            fine = belt();
+        }
+        return fine;
+    }
+
     private boolean ask() {
         String text = spoiled((up(2) == 0 ? "many " : "first ") + test(0));
         int length = text.length() + (up(20) == 0 ? up(30) - 10 : 0);
@@ -197,7 +206,7 @@ public final class ModelTest {
         int s = index(plain.sides.size());
         int w = index(plain.wares.size());
         switch (kind) {
-            case 0: return k == 0 || up(3) == 0 ? belt() : true;
+            case 0: return k == 0 ? startingBelt() : up(3) != 0 || belt();
             case 1: case 2: return ask();
             case 3: case 4: case 5: case 6: case 7: case 8: {
                 int n = up(12) == 0 ? index(501) : between(1, up(3) == 0 ? 60 : 6);
