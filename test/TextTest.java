@@ -141,6 +141,10 @@ public final class TextTest {
         fault("belt 6  ", 1, 8);
         fault("belt 6;;", 1, 7);
         fault("belt 6;exit", 1, 11);
+        fault("belt 6;exitz 1 1;", 1, 7);
+        fault("belt 6;aexit 1 1;", 1, 7);
+        fault("belt 6;exit{1 1;", 1, 11);
+        fault("belt 6;exit 1`1;", 1, 13);
         fault("belt 6;exit 1;", 1, 13);
         fault("belt 6;exit 1 1 1;", 1, 16);
         fault("belt 6;exit -1 1;", 1, 12);

@@ -13,6 +13,7 @@ public final class TickTest {
         credits();
         laws();
         logOfForty();
+        asManyAsCanBe();
         wrongOnes();
         C.end("TickTest");
     }
@@ -281,6 +282,48 @@ public final class TickTest {
             C.due("log(" + ago + ", 0)", x.log(ago, 0), 44 - ago);
         }
         C.noSuch("log(40, 0)", () -> x.log(40, 0));
+    }
+
+    /** Six EXITS, eight WARES, six SIDES, twelve COMINGS on forty PLACES. */
+    private static void asManyAsCanBe() {
+        StringBuilder s = new StringBuilder("belt 40;");
+        for (int k = 0; k < 6; k++) {
+            s.append("exit ").append(6 * k + 3).append(" 1;side ").append(6 * k).append(" 1 12 ").append(k < 5 ? 3 : 4).append(';');
+        }
+        for (int k = 0; k < 8; k++) {
+            s.append("ware ").append(k < 6 ? k : 5).append(k > 5 ? " urgent;" : ";");
+        }
+        for (int k = 0; k < 12; k++) {
+            s.append("comes ").append(k % 6).append(' ').append(k % 6).append(" 30 1;");
+        }
+        MergeBelts x = Check.of(s.toString());
+        x.change(4, 0, 3);
+        x.change(5, 0, 20);
+        x.push(4, 6);
+        x.push(4, 6);
+        x.push(5, 7);
+        x.push(5, 7);
+        C.due("urgent", x.side(5, 8), 2);
+        C.due("ware(7, 3)", x.ware(7, 3), 2);
+        x.ticks(1);
+        C.due("held of SIDE 4", x.side(4, 5), 1);
+        C.due("held of SIDE 5", x.side(5, 5), 1);
+        C.due("credit of SIDE 4", x.side(4, 6), -4);
+        C.due("credit of SIDE 5", x.side(5, 6), 4);
+        row("all twelve come: ROOM 1, LOST 1; ROOM 3, one waits", new int[] {x.ticks(1), x.count(11), x.count(9)}, 0, 4, 4);
+        row("one RESERVED each was used, so one and two more are", new int[] {x.side(4, 5), x.side(5, 5), x.side(4, 10), x.side(5, 10)}, 2, 2, 2, 2);
+        C.due("all are TAKEN", x.ticks(20), 4 + 4 + 4);
+        for (int k = 0; k < 4; k++) {
+            C.due("TAKEN of SIDE " + k, x.side(k, 11), 1);
+            C.due("TAKEN at EXIT " + k, x.exit(k, 3), 1);
+            C.due("TAKEN of WARE " + k, x.ware(k, 4), 1);
+            C.due("LOST of SIDE " + k, x.side(k, 12), 1);
+        }
+        C.due("WARE 7", x.ware(7, 4), 2);
+        C.due("WARE 6", x.ware(6, 4), 2);
+        C.due("EXIT 5", x.exit(5, 3), 6);
+        C.due("SIDE 5", x.side(5, 11), 4);
+        C.due("coming(11, 4)", x.coming(11, 4), 9);
     }
 
     private static void wrongOnes() {

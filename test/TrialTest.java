@@ -204,6 +204,8 @@ public final class TrialTest {
         C.noSuch("NoSuchElementException is first", () -> x.bestReach(2, 0));
         C.illegal("bestReach(0, 0)", () -> x.bestReach(0, 0));
         C.illegal("bestReach(0, 201)", () -> x.bestReach(0, 201));
+        MergeBelts y = Check.of("belt 4;exit 1 1;ware 0;side 0 3 3 1;");
+        C.due("the least, if none goes", y.bestReach(0, 200), 0);
     }
 
     private static void without() {
@@ -233,6 +235,7 @@ public final class TrialTest {
         C.noSuch("NoSuchElementException is first", () -> x.without(-1, -1));
         C.illegal("without(0, -1)", () -> x.without(0, -1));
         C.illegal("without(0, 501)", () -> x.without(0, 501));
+        C.due("of the longest TRIAL", x.without(0, 500), 497);
     }
 
     private static void nothingStays() {

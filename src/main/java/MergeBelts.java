@@ -51,7 +51,6 @@ public final class MergeBelts {
     private int faultPlace = NONE;
 
     public MergeBelts() {
-        plan.clear();
         plan.places = MIN_PLACES;
         now.begin(plan);
     }
