@@ -37,13 +37,13 @@ public final class MergeBelts {
     private static final int SECOND_TURNS = 5;
 
     private final Tape tape = new Tape();
-    private final BeltText beltText = new BeltText(tape);
-    private final Question question = new Question(tape);
+    private final BeltText beltText = new BeltText();
+    private final Question question = new Question();
     private final Plan plan = new Plan();
     private final State now = new State();
     private final Acts acts = new Acts();
-    private final State early = new State();
-    private final State late = new State();
+    private final State earlier = new State();
+    private final State later = new State();
     private final Plan keptPlan = new Plan();
     private final State keptState = new State();
     private int keptFault = NONE;
@@ -71,7 +71,7 @@ public final class MergeBelts {
         if (n < 0 || n > tape.size) {
             throw new IllegalArgumentException();
         }
-        beltText.read(n);
+        beltText.read(tape, n);
         faultPlace = tape.faultPlace;
         if (tape.faultKind != 0) {
             return -10 - tape.faultKind;
@@ -259,14 +259,14 @@ public final class MergeBelts {
         if (n < 0 || n > MAX_TICKS) {
             throw new IllegalArgumentException();
         }
-        late.copyFrom(now);
-        late.run(plan, n);
+        later.copyFrom(now);
+        later.run(plan, n);
         switch (what) {
-            case 0: return late.exitTaken.sum() - now.exitTaken.sum();
-            case 1: return late.lost.sum() - now.lost.sum();
-            case 2: return late.ring.items();
-            case 3: return late.queues.size.sum();
-            default: return late.longestJam(plan);
+            case 0: return later.exitTaken.sum() - now.exitTaken.sum();
+            case 1: return later.lost.sum() - now.lost.sum();
+            case 2: return later.ring.items();
+            case 3: return later.queues.size.sum();
+            default: return later.longestJam(plan);
         }
     }
 
@@ -278,7 +278,7 @@ public final class MergeBelts {
         if (period == NONE || what == 1) {
             return period;
         }
-        return early.tick - now.tick;
+        return earlier.tick - now.tick;
     }
 
     public int rate(int what, int i) throws NoSuchElementException {
@@ -289,7 +289,7 @@ public final class MergeBelts {
         if (findAgain() == NONE) {
             return NONE;
         }
-        return ratedBy(late, what, i) - ratedBy(early, what, i);
+        return ratedBy(later, what, i) - ratedBy(earlier, what, i);
     }
 
     public long load(int place, boolean lower) throws NoSuchElementException {
@@ -322,10 +322,10 @@ public final class MergeBelts {
             throw new IllegalArgumentException();
         }
         for (int room = Math.max(1, now.queues.size.get(side)); room <= MAX_ROOM; room++) {
-            late.copyFrom(now);
-            late.room.set(side, room);
-            late.runTillLost(plan, side, n);
-            if (late.lost.get(side) == now.lost.get(side)) {
+            later.copyFrom(now);
+            later.room.set(side, room);
+            later.runTillLost(plan, side, n);
+            if (later.lost.get(side) == now.lost.get(side)) {
                 return room;
             }
         }
@@ -342,11 +342,11 @@ public final class MergeBelts {
         int best = 0;
         int most = NONE;
         for (int reach = 0; reach < plan.places; reach++) {
-            late.copyFrom(now);
-            late.reach.set(side, reach);
-            late.run(plan, n);
-            if (late.gone.get(side) > most) {
-                most = late.gone.get(side);
+            later.copyFrom(now);
+            later.reach.set(side, reach);
+            later.run(plan, n);
+            if (later.gone.get(side) > most) {
+                most = later.gone.get(side);
                 best = reach;
             }
         }
@@ -360,19 +360,19 @@ public final class MergeBelts {
         if (n < 0 || n > MAX_TICKS) {
             throw new IllegalArgumentException();
         }
-        early.copyFrom(now);
-        early.run(plan, n);
-        late.copyFrom(now);
-        late.silence(side);
-        late.run(plan, n);
-        return takenOfOthers(late, side) - takenOfOthers(early, side);
+        earlier.copyFrom(now);
+        earlier.run(plan, n);
+        later.copyFrom(now);
+        later.silence(side);
+        later.run(plan, n);
+        return takenOfOthers(later, side) - takenOfOthers(earlier, side);
     }
 
     public int ask(int n) throws IllegalArgumentException {
         if (n < 0 || n > tape.size || n > MAX_QUESTION) {
             throw new IllegalArgumentException();
         }
-        question.read(n);
+        question.read(tape, n);
         faultPlace = tape.faultPlace;
         if (tape.faultKind != 0) {
             return -1000000000 - tape.faultKind;
@@ -420,33 +420,33 @@ public final class MergeBelts {
     }
 
     /**
-     * Leaves early behind t TICKS and late behind t and d: d, or NONE.
+     * Leaves earlier behind t TICKS and later behind t and d: d, or NONE.
      * Where there is AGAIN, what is behind 500 TICKS lies within what comes again,
      * so d is found from there, and t behind it.
      */
     private int findAgain() {
-        early.copyFrom(now);
+        earlier.copyFrom(now);
         for (int k = 0; k < MAX_TICKS; k++) {
-            early.step(plan);
+            earlier.step(plan);
         }
-        late.copyFrom(early);
+        later.copyFrom(earlier);
         int period = 1;
-        late.step(plan);
-        while (period < MAX_TICKS && !late.isAs(early, plan)) {
-            late.step(plan);
+        later.step(plan);
+        while (period < MAX_TICKS && !later.isAs(earlier, plan)) {
+            later.step(plan);
             period++;
         }
-        early.copyFrom(now);
-        late.copyFrom(now);
+        earlier.copyFrom(now);
+        later.copyFrom(now);
         for (int k = 0; k < period; k++) {
-            late.step(plan);
+            later.step(plan);
         }
         for (int t = 0; t + period <= MAX_TICKS; t++) {
-            if (early.isAs(late, plan)) {
+            if (earlier.isAs(later, plan)) {
                 return period;
             }
-            early.step(plan);
-            late.step(plan);
+            earlier.step(plan);
+            later.step(plan);
         }
         return NONE;
     }
@@ -1472,14 +1472,9 @@ public final class MergeBelts {
 
     /** Reads a TEXT into a plan of its own, so that a FAULT changes no other. */
     private static final class BeltText {
-        private final Tape tape;
         final Plan plan = new Plan();
 
-        BeltText(Tape tape) {
-            this.tape = tape;
-        }
-
-        void read(int n) {
+        void read(Tape tape, int n) {
             plan.clear();
             tape.beginText(n);
             tape.takeWord("belt");
@@ -1487,15 +1482,15 @@ public final class MergeBelts {
             tape.takeSign(';');
             for (int line = 0; line < MAX_TAPE && tape.isFine() && !tape.isAtEnd(); line++) {
                 if (tape.isWord("exit")) {
-                    readExit();
+                    readExit(tape);
                 } else if (tape.isWord("ware")) {
-                    readWare();
+                    readWare(tape);
                 } else if (tape.isWord("side")) {
-                    readSide();
+                    readSide(tape);
                 } else if (tape.isWord("comes")) {
-                    readComing();
+                    readComing(tape);
                 } else if (tape.isWord("turns")) {
-                    readTurns();
+                    readTurns(tape);
                 } else {
                     tape.fail(CANNOT_STAND);
                 }
@@ -1504,7 +1499,7 @@ public final class MergeBelts {
         }
 
         /** Takes the word of one more, if one more may be. */
-        private void takeOneMore(int there, int most) {
+        private static void takeOneMore(Tape tape, int there, int most) {
             if (there >= most) {
                 tape.fail(TOO_MANY);
             } else {
@@ -1512,24 +1507,24 @@ public final class MergeBelts {
             }
         }
 
-        private int takeOwnPlace(Row used, int there) {
+        private int takeOwnPlace(Tape tape, Row used, int there) {
             if (tape.isNumber() && used.has(tape.number(), there)) {
                 return tape.fail(PLACE_IN_USE);
             }
             return tape.takeNumber(0, plan.places - 1);
         }
 
-        private void readExit() {
+        private void readExit(Tape tape) {
             int exit = plan.exits;
-            takeOneMore(exit, MAX_EXITS);
-            plan.exitPlace.set(exit, takeOwnPlace(plan.exitPlace, exit));
+            takeOneMore(tape, exit, MAX_EXITS);
+            plan.exitPlace.set(exit, takeOwnPlace(tape, plan.exitPlace, exit));
             plan.exitPace.set(exit, tape.takeNumber(1, MAX_PACE));
             plan.exits++;
         }
 
-        private void readWare() {
+        private void readWare(Tape tape) {
             int ware = plan.wares;
-            takeOneMore(ware, MAX_WARES);
+            takeOneMore(tape, ware, MAX_WARES);
             plan.wareExit.set(ware, tape.takeNumber(0, plan.exits - 1));
             boolean urgent = tape.isWord("urgent");
             plan.wareUrgent.set(ware, urgent ? 1 : 0);
@@ -1539,19 +1534,19 @@ public final class MergeBelts {
             plan.wares++;
         }
 
-        private void readSide() {
+        private void readSide(Tape tape) {
             int side = plan.sides;
-            takeOneMore(side, MAX_SIDES);
-            plan.sidePlace.set(side, takeOwnPlace(plan.sidePlace, side));
+            takeOneMore(tape, side, MAX_SIDES);
+            plan.sidePlace.set(side, takeOwnPlace(tape, plan.sidePlace, side));
             plan.sideRoom.set(side, tape.takeNumber(1, MAX_ROOM));
             plan.sideReach.set(side, tape.takeNumber(0, plan.places - 1));
             plan.sideShare.set(side, tape.takeNumber(1, MAX_SHARE));
             plan.sides++;
         }
 
-        private void readComing() {
+        private void readComing(Tape tape) {
             int coming = plan.comings;
-            takeOneMore(coming, MAX_COMINGS);
+            takeOneMore(tape, coming, MAX_COMINGS);
             plan.comingSide.set(coming, tape.takeNumber(0, plan.sides - 1));
             plan.comingWare.set(coming, tape.takeNumber(0, plan.wares - 1));
             plan.comingEvery.set(coming, tape.takeNumber(1, MAX_EVERY));
@@ -1559,7 +1554,7 @@ public final class MergeBelts {
             plan.comings++;
         }
 
-        private void readTurns() {
+        private void readTurns(Tape tape) {
             if (plan.hasTurns) {
                 tape.fail(SECOND_TURNS);
                 return;
@@ -1570,12 +1565,12 @@ public final class MergeBelts {
             boolean partIsDue = true;
             for (int token = 0; token < MAX_TAPE && tape.isFine(); token++) {
                 if (partIsDue && tape.isSign('(')) {
-                    open += takeOpening(open);
+                    open += takeOpening(tape, open);
                 } else if (partIsDue) {
-                    readPart();
+                    readPart(tape);
                     partIsDue = false;
-                } else if (operatorThere() != 0) {
-                    plan.law.addOperator(operatorThere());
+                } else if (operatorThere(tape) != 0) {
+                    plan.law.addOperator(operatorThere(tape));
                     tape.next();
                     partIsDue = true;
                 } else if (open > 0) {
@@ -1589,7 +1584,7 @@ public final class MergeBelts {
             plan.law.end();
         }
 
-        private int takeOpening(int open) {
+        private int takeOpening(Tape tape, int open) {
             if (open >= MAX_OPEN) {
                 return tape.fail(TOO_MANY);
             }
@@ -1598,8 +1593,8 @@ public final class MergeBelts {
             return 1;
         }
 
-        private void readPart() {
-            int part = partThere();
+        private void readPart(Tape tape) {
+            int part = partThere(tape);
             if (part == NONE) {
                 plan.law.addNumber(tape.takeNumber(0, MAX_NUMBER));
             } else {
@@ -1608,7 +1603,7 @@ public final class MergeBelts {
             }
         }
 
-        private int operatorThere() {
+        private static int operatorThere(Tape tape) {
             if (tape.isSign('+')) {
                 return Formula.PLUS;
             }
@@ -1618,7 +1613,7 @@ public final class MergeBelts {
             return tape.isSign('*') ? Formula.TIMES : 0;
         }
 
-        private int partThere() {
+        private static int partThere(Tape tape) {
             if (tape.isWord("credit")) {
                 return Formula.CREDIT;
             }
@@ -1655,17 +1650,12 @@ public final class MergeBelts {
         private static final int EXIT = 6;
         private static final int SIDE = 7;
 
-        private final Tape tape;
         private final Formula test = new Formula(MAX_QUESTION);
         boolean many;
         private int braces;
         private int nots;
 
-        Question(Tape tape) {
-            this.tape = tape;
-        }
-
-        void read(int n) {
+        void read(Tape tape, int n) {
             test.clear();
             braces = 0;
             nots = 0;
@@ -1675,7 +1665,7 @@ public final class MergeBelts {
             boolean factIsDue = true;
             for (int token = 0; token < MAX_QUESTION && tape.isFine(); token++) {
                 if (factIsDue) {
-                    factIsDue = !readFact();
+                    factIsDue = !readFact(tape);
                 } else if (tape.isWord("and") || tape.isWord("or")) {
                     test.addOperator(tape.isWord("and") ? Formula.AND : Formula.OR);
                     tape.next();
@@ -1695,26 +1685,26 @@ public final class MergeBelts {
         }
 
         /** Whether it was a comparison: behind 'not' and '{' a FACT is still due. */
-        private boolean readFact() {
+        private boolean readFact(Tape tape) {
             boolean not = tape.isWord("not");
             if (not || tape.isSign('{')) {
-                openOneMore(not);
+                openOneMore(tape, not);
                 return false;
             }
-            readValue();
-            int operator = comparisonThere();
+            readValue(tape);
+            int operator = comparisonThere(tape);
             if (operator == 0) {
                 tape.fail(CANNOT_STAND);
                 return false;
             }
             tape.next();
             test.addOperator(operator);
-            readValue();
+            readValue(tape);
             nots -= test.endFact();
             return true;
         }
 
-        private void openOneMore(boolean not) {
+        private void openOneMore(Tape tape, boolean not) {
             if (nots + braces >= MAX_OPEN) {
                 tape.fail(TOO_DEEP);
                 return;
@@ -1725,8 +1715,8 @@ public final class MergeBelts {
             tape.next();
         }
 
-        private void readValue() {
-            int part = partThere();
+        private void readValue(Tape tape) {
+            int part = partThere(tape);
             if (part == NONE) {
                 test.addNumber(tape.takeNumber(0, MAX_NUMBER));
             } else {
@@ -1735,7 +1725,7 @@ public final class MergeBelts {
             }
         }
 
-        private int comparisonThere() {
+        private static int comparisonThere(Tape tape) {
             if (tape.isSign('<')) {
                 return Formula.LESS;
             }
@@ -1745,7 +1735,7 @@ public final class MergeBelts {
             return tape.isSign('>') ? Formula.MORE : 0;
         }
 
-        private int partThere() {
+        private static int partThere(Tape tape) {
             if (tape.isWord("place")) {
                 return PLACE;
             }
