@@ -24,6 +24,7 @@ public final class LanguageTest {
         inside();
         source();
         room();
+        wildArguments();
         C.end("LanguageTest");
     }
 
@@ -118,6 +119,41 @@ public final class LanguageTest {
         for (int at = text.indexOf("/ "); at >= 0; at = text.indexOf("/ ", at + 1)) {
             String part = text.substring(at, Math.min(text.length(), at + 12));
             C.due("a divisor that is tested: " + part, part.startsWith("/ divisor") || part.startsWith("/ every"));
+        }
+    }
+
+    /** Nothing but the document's two exceptions comes out of any call, whatever its arguments. */
+    private static void wildArguments() throws Exception {
+        int[] wild = {Integer.MIN_VALUE, -1000, -2, -1, 0, 1, 2, 3, 5, 6, 7, 14, 20, 40, 200, 500, 999, 1 << 16, Integer.MAX_VALUE};
+        String[] texts = {"belt 4;", "belt 7;exit 3 2;ware 0;side 0 3 6 1;side 2 1 0 9;comes 0 0 1 0;comes 1 0 2 5;turns late-credit*held;"};
+        java.util.Random random = new java.util.Random(7);
+        List<Method> methods = new ArrayList<>();
+        for (Method m : MergeBelts.class.getDeclaredMethods()) {
+            if (Modifier.isPublic(m.getModifiers())) {
+                methods.add(m);
+            }
+        }
+        methods.sort(java.util.Comparator.comparing(Method::getName));
+        for (int run = 0; run < 200; run++) {
+            MergeBelts x = Check.of(texts[run % 2]);
+            for (int k = 0; k < 400; k++) {
+                Method m = methods.get(random.nextInt(methods.size()));
+                Object[] given = new Object[m.getParameterCount()];
+                for (int i = 0; i < given.length; i++) {
+                    given[i] = m.getParameterTypes()[i] == boolean.class ? (Object) random.nextBoolean() : wild[random.nextInt(wild.length)];
+                }
+                outcome(x, m, given);
+            }
+        }
+    }
+
+    private static void outcome(MergeBelts x, Method m, Object[] given) throws Exception {
+        try {
+            m.invoke(x, given);
+        } catch (java.lang.reflect.InvocationTargetException e) {
+            Class<?> thrown = e.getCause().getClass();
+            boolean told = List.of(m.getExceptionTypes()).contains(thrown);
+            C.due(m.getName() + java.util.Arrays.toString(given) + " throws " + thrown, told);
         }
     }
 
