@@ -10,6 +10,7 @@ public final class ActsTest {
         change();
         undo();
         image();
+        faultBehindBack();
         C.end("ActsTest");
     }
 
@@ -145,7 +146,7 @@ public final class ActsTest {
         x.ticks(3);
         C.due("back()", x.back());
         C.due("all is as it was kept", Look.of(x).equals(kept));
-        C.due("fault() too", x.fault(), 11);
+        C.due("but fault() is of the latest belt() or ask()", x.fault(), -1);
         C.due("not the tape", x.count(14), 20);
         C.due("no ACTS are kept", x.count(13), 0);
         C.due("none can be UNDONE", x.undo(), -1);
@@ -158,5 +159,30 @@ public final class ActsTest {
         x.ticks(1);
         C.due("back() to the second", x.back());
         C.due("instead of what was", Look.of(x).equals(second));
+    }
+
+    /** Promise 4: the latest FAULT is of belt() and ask() alone, so that back() neither brings nor takes one. */
+    private static void faultBehindBack() {
+        MergeBelts x = Check.of(TEXT);
+        C.due("nothing was kept", !x.back());
+        C.due("none yet", x.fault(), -1);
+        x.image();
+        Check.ask(x, "many x");
+        C.due("a FAULT of ask()", x.fault(), 5);
+        x.image();
+        C.due("image() leaves it", x.fault(), 5);
+        C.due("ask() without a FAULT", Check.ask(x, "many 1=1"), 6);
+        C.due("back()", x.back());
+        C.due("ask() had none", x.fault(), -1);
+        Check.belt(x, "belt 50;");
+        C.due("back()", x.back());
+        C.due("the FAULT of belt() stays", x.fault(), 5);
+        C.illegal("belt(1)", () -> x.belt(1));
+        C.due("back() again", x.back());
+        C.due("and behind an IllegalArgumentException", x.fault(), 5);
+        C.due("belt() without a FAULT", Check.belt(x, "belt 7;"), 7);
+        C.due("back() to ahead of it", x.back());
+        C.due("the BELT that was kept", x.count(0), 6);
+        C.due("belt() had none", x.fault(), -1);
     }
 }

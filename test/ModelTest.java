@@ -225,7 +225,8 @@ public final class ModelTest {
             }
             case 18: case 19: return same("undo()", x -> x.undo(), x -> x.undo());
             case 20: if (up(3) == 0) { real.image(); plain.image(); history.add("image"); } return true;
-            case 21: return up(4) != 0 || same("back()", x -> x.back() ? 1 : 0, x -> x.back() ? 1 : 0);
+            case 21: return up(4) != 0 || same("back()", x -> x.back() ? 1 : 0, x -> x.back() ? 1 : 0)
+                & same("fault()", x -> x.fault(), x -> x.fault());
             default: return look(kind, e, s, w);
         }
     }

@@ -676,7 +676,6 @@ final class PlainBelt {
 
     void image() {
         kept = copy();
-        kept.fault = fault;
     }
 
     boolean back() {
@@ -684,7 +683,6 @@ final class PlainBelt {
             return false;
         }
         adopt(kept);
-        fault = kept.fault;
         acts.clear();
         return true;
     }

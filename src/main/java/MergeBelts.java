@@ -46,7 +46,6 @@ public final class MergeBelts {
     private final State later = new State();
     private final Plan keptPlan = new Plan();
     private final State keptState = new State();
-    private int keptFault = NONE;
     private boolean kept;
     private int faultPlace = NONE;
 
@@ -392,7 +391,6 @@ public final class MergeBelts {
     public void image() {
         keptPlan.copyFrom(plan);
         keptState.copyFrom(now);
-        keptFault = faultPlace;
         kept = true;
     }
 
@@ -402,7 +400,6 @@ public final class MergeBelts {
         }
         plan.copyFrom(keptPlan);
         now.copyFrom(keptState);
-        faultPlace = keptFault;
         acts.clear();
         return true;
     }
