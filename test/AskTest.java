@@ -22,8 +22,7 @@ public final class AskTest {
     }
 
     private static void asked(String text, int answer) {
-        C.due(text, Check.ask(x, text), answer);
-        C.due(text + " fault()", x.fault(), -1);
+        C.asked(x, text, answer);
         C.due("the tape is empty", x.count(14), 0);
     }
 

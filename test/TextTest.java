@@ -87,22 +87,16 @@ public final class TextTest {
         C.due("an empty TEXT", x.belt(0), -11);
     }
 
-    private static void stands(String text, int n) {
-        MergeBelts x = new MergeBelts();
-        C.due(text, Check.belt(x, text), n);
-        C.due(text + " fault()", x.fault(), -1);
-    }
-
     private static void linesThatStand() {
-        stands("belt 4;", 4);
-        stands("belt 40;", 40);
-        stands("belt6;exit5 9;", 6);
-        stands(" \n belt\n007 ; \n", 7);
-        stands("belt 0000000000000000000000000000000000000006;", 6);
-        stands("belt 6;exit 0 1;exit 5 9;side 0 1 0 1;side 5 20 5 9;", 6);
-        stands("belt 6;side 1 1 1 1;exit 1 1;ware 0 urgent;ware 0;", 6);
-        stands(ONE_OF_ALL + "comes 0 0 1 0;comes 0 0 30 999;", 6);
-        stands("belt 6;turns 0;exit 1 1;", 6);
+        C.stands("belt 4;", 4);
+        C.stands("belt 40;", 40);
+        C.stands("belt6;exit5 9;", 6);
+        C.stands(" \n belt\n007 ; \n", 7);
+        C.stands("belt 0000000000000000000000000000000000000006;", 6);
+        C.stands("belt 6;exit 0 1;exit 5 9;side 0 1 0 1;side 5 20 5 9;", 6);
+        C.stands("belt 6;side 1 1 1 1;exit 1 1;ware 0 urgent;ware 0;", 6);
+        C.stands(ONE_OF_ALL + "comes 0 0 1 0;comes 0 0 30 999;", 6);
+        C.stands("belt 6;turns 0;exit 1 1;", 6);
         MergeBelts x = Check.of("belt 9;exit 3 2;exit 8 9;ware 1;ware 0 urgent;side 3 4 5 6;side 0 20 8 9;comes 1 0 30 999;comes 0 1 7 3;");
         int[] exit = {8, 9, 0, 0, 0, 0};
         for (int what = 0; what < 6; what++) {
@@ -122,75 +116,69 @@ public final class TextTest {
         }
     }
 
-    private static void fault(String text, int kind, int place) {
-        MergeBelts x = new MergeBelts();
-        C.due(text, Check.belt(x, text), -10 - kind);
-        C.due(text + " fault()", x.fault(), place);
-    }
-
     private static void faults() {
-        fault("", 1, 0);
-        fault("   ", 1, 3);
-        fault("bel", 1, 0);
-        fault("belts 6;", 1, 0);
-        fault("Belt 6;", 1, 0);
-        fault("6;", 1, 0);
-        fault("belt", 1, 4);
-        fault("belt;", 1, 4);
-        fault("belt\t6;", 1, 4);
-        fault("belt 6  ", 1, 8);
-        fault("belt 6;;", 1, 7);
-        fault("belt 6;exit", 1, 11);
-        fault("belt 6;exitz 1 1;", 1, 7);
-        fault("belt 6;aexit 1 1;", 1, 7);
-        fault("belt 6;exit{1 1;", 1, 11);
-        fault("belt 6;exit 1`1;", 1, 13);
-        fault("belt 6;exit 1;", 1, 13);
-        fault("belt 6;exit 1 1 1;", 1, 16);
-        fault("belt 6;exit -1 1;", 1, 12);
-        fault("belt 6;belt 6;", 1, 7);
-        fault("belt 3;", 2, 5);
-        fault("belt 41;", 2, 5);
-        fault("belt 99999999999999999999999;", 2, 5);
-        fault("belt 4294967300;", 2, 5);
-        fault("belt 6;exit 6 1;", 2, 12);
-        fault("belt 6;exit 1 0;", 2, 14);
-        fault("belt 6;exit 1 10;", 2, 14);
-        fault("belt 6;ware 0;", 2, 12);
-        fault("belt 6;exit 0 1;ware 1;", 2, 21);
-        fault("belt 6;exit 0 1;ware 0 urgen;", 1, 23);
-        fault("belt 6;exit 0 1;ware 0 urgent urgent;", 1, 30);
-        fault("belt 6;side 6 1 0 1;", 2, 12);
-        fault("belt 6;side 0 0 0 1;", 2, 14);
-        fault("belt 6;side 0 21 0 1;", 2, 14);
-        fault("belt 6;side 0 1 6 1;", 2, 16);
-        fault("belt 6;side 0 1 5 0;", 2, 18);
-        fault("belt 6;side 0 1 5 10;", 2, 18);
-        fault("belt 6;side 0 1 5;", 1, 17);
-        fault(ONE_OF_ALL + "comes 1 0 1 0;", 2, 42);
-        fault(ONE_OF_ALL + "comes 0 1 1 0;", 2, 44);
-        fault(ONE_OF_ALL + "comes 0 0 0 0;", 2, 46);
-        fault(ONE_OF_ALL + "comes 0 0 31 0;", 2, 46);
-        fault(ONE_OF_ALL + "comes 0 0 30 1000;", 2, 49);
-        fault("belt 6;exit 3 1;exit 0 1;exit 3 1;", 3, 30);
-        fault("belt 6;exit 3 1;exit 3 0;", 3, 21);
-        fault("belt 6;side 2 1 0 1;side 2 1 0 1;", 3, 25);
-        fault("belt 6;turns 1;turns 1;", 5, 15);
-        fault("belt 6;turns 1;turns", 5, 15);
-        fault("belt 6;turns;", 1, 12);
-        fault("belt 6;turns 10000;", 2, 13);
-        fault("belt 6;turns -1;", 1, 13);
-        fault("belt 6;turns 1+;", 1, 15);
-        fault("belt 6;turns 1 2;", 1, 15);
-        fault("belt 6;turns (1;", 1, 15);
-        fault("belt 6;turns (1", 1, 15);
-        fault("belt 6;turns 1);", 1, 14);
-        fault("belt 6;turns ();", 1, 14);
-        fault("belt 6;turns 1/2;", 1, 14);
-        fault("belt 6;turns place;", 1, 13);
-        fault("belt 6;turns late late;", 1, 18);
-        fault("belt 6;turns ((((((( 1", 4, 19);
-        fault("belt 40;exit 0 1;exit 1 1;exit 2 1;exit 3 1;exit 4 1;exit 5 1;turns 1;turns 2;", 5, 70);
+        C.refused("", 1, 0);
+        C.refused("   ", 1, 3);
+        C.refused("bel", 1, 0);
+        C.refused("belts 6;", 1, 0);
+        C.refused("Belt 6;", 1, 0);
+        C.refused("6;", 1, 0);
+        C.refused("belt", 1, 4);
+        C.refused("belt;", 1, 4);
+        C.refused("belt\t6;", 1, 4);
+        C.refused("belt 6  ", 1, 8);
+        C.refused("belt 6;;", 1, 7);
+        C.refused("belt 6;exit", 1, 11);
+        C.refused("belt 6;exitz 1 1;", 1, 7);
+        C.refused("belt 6;aexit 1 1;", 1, 7);
+        C.refused("belt 6;exit{1 1;", 1, 11);
+        C.refused("belt 6;exit 1`1;", 1, 13);
+        C.refused("belt 6;exit 1;", 1, 13);
+        C.refused("belt 6;exit 1 1 1;", 1, 16);
+        C.refused("belt 6;exit -1 1;", 1, 12);
+        C.refused("belt 6;belt 6;", 1, 7);
+        C.refused("belt 3;", 2, 5);
+        C.refused("belt 41;", 2, 5);
+        C.refused("belt 99999999999999999999999;", 2, 5);
+        C.refused("belt 4294967300;", 2, 5);
+        C.refused("belt 6;exit 6 1;", 2, 12);
+        C.refused("belt 6;exit 1 0;", 2, 14);
+        C.refused("belt 6;exit 1 10;", 2, 14);
+        C.refused("belt 6;ware 0;", 2, 12);
+        C.refused("belt 6;exit 0 1;ware 1;", 2, 21);
+        C.refused("belt 6;exit 0 1;ware 0 urgen;", 1, 23);
+        C.refused("belt 6;exit 0 1;ware 0 urgent urgent;", 1, 30);
+        C.refused("belt 6;side 6 1 0 1;", 2, 12);
+        C.refused("belt 6;side 0 0 0 1;", 2, 14);
+        C.refused("belt 6;side 0 21 0 1;", 2, 14);
+        C.refused("belt 6;side 0 1 6 1;", 2, 16);
+        C.refused("belt 6;side 0 1 5 0;", 2, 18);
+        C.refused("belt 6;side 0 1 5 10;", 2, 18);
+        C.refused("belt 6;side 0 1 5;", 1, 17);
+        C.refused(ONE_OF_ALL + "comes 1 0 1 0;", 2, 42);
+        C.refused(ONE_OF_ALL + "comes 0 1 1 0;", 2, 44);
+        C.refused(ONE_OF_ALL + "comes 0 0 0 0;", 2, 46);
+        C.refused(ONE_OF_ALL + "comes 0 0 31 0;", 2, 46);
+        C.refused(ONE_OF_ALL + "comes 0 0 30 1000;", 2, 49);
+        C.refused("belt 6;exit 3 1;exit 0 1;exit 3 1;", 3, 30);
+        C.refused("belt 6;exit 3 1;exit 3 0;", 3, 21);
+        C.refused("belt 6;side 2 1 0 1;side 2 1 0 1;", 3, 25);
+        C.refused("belt 6;turns 1;turns 1;", 5, 15);
+        C.refused("belt 6;turns 1;turns", 5, 15);
+        C.refused("belt 6;turns;", 1, 12);
+        C.refused("belt 6;turns 10000;", 2, 13);
+        C.refused("belt 6;turns -1;", 1, 13);
+        C.refused("belt 6;turns 1+;", 1, 15);
+        C.refused("belt 6;turns 1 2;", 1, 15);
+        C.refused("belt 6;turns (1;", 1, 15);
+        C.refused("belt 6;turns (1", 1, 15);
+        C.refused("belt 6;turns 1);", 1, 14);
+        C.refused("belt 6;turns ();", 1, 14);
+        C.refused("belt 6;turns 1/2;", 1, 14);
+        C.refused("belt 6;turns place;", 1, 13);
+        C.refused("belt 6;turns late late;", 1, 18);
+        C.refused("belt 6;turns ((((((( 1", 4, 19);
+        C.refused("belt 40;exit 0 1;exit 1 1;exit 2 1;exit 3 1;exit 4 1;exit 5 1;turns 1;turns 2;", 5, 70);
     }
 
     private static String times(int n, String line) {
@@ -203,17 +191,17 @@ public final class TextTest {
 
     private static void oneTooMany() {
         String six = "belt 40;" + times(6, "exit # 1;");
-        stands(six, 40);
-        fault(six + "exit", 4, six.length());
+        C.stands(six, 40);
+        C.refused(six + "exit", 4, six.length());
         String eight = "belt 40;exit 0 1;" + times(8, "ware 0;");
-        stands(eight, 40);
-        fault(eight + "ware 0;", 4, eight.length());
+        C.stands(eight, 40);
+        C.refused(eight + "ware 0;", 4, eight.length());
         String sides = "belt 40;" + times(6, "side # 1 0 1;");
-        stands(sides, 40);
-        fault(sides + "side 0 1 0 1;", 4, sides.length());
+        C.stands(sides, 40);
+        C.refused(sides + "side 0 1 0 1;", 4, sides.length());
         String twelve = ONE_OF_ALL + times(12, "comes 0 0 # 0;").replace("comes 0 0 0 ", "comes 0 0 30 ");
-        stands(twelve, 6);
-        fault(twelve + "comes 0 0 1 0;", 4, twelve.length());
+        C.stands(twelve, 6);
+        C.refused(twelve + "comes 0 0 1 0;", 4, twelve.length());
     }
 
     private static void law(String sum, int rank) {

@@ -18,20 +18,6 @@ public final class TickTest {
         C.end("TickTest");
     }
 
-    private static void row(String what, int[] got, int... want) {
-        for (int k = 0; k < want.length; k++) {
-            C.due(what + " [" + k + "]", got[k], want[k]);
-        }
-    }
-
-    private static int[] places(MergeBelts x, int what) {
-        int[] row = new int[x.count(0)];
-        for (int p = 0; p < row.length; p++) {
-            row[p] = x.place(p, what);
-        }
-        return row;
-    }
-
     private static int[] side(MergeBelts x, int side) {
         int[] row = new int[14];
         for (int what = 0; what < 14; what++) {
@@ -60,11 +46,11 @@ public final class TickTest {
     private static void lostAndTaken() {
         MergeBelts x = Check.of("belt 4;exit 2 1;ware 0;side 0 1 0 1;comes 0 0 1 0;comes 0 0 2 1;");
         C.due("ticks(3)", x.ticks(3), 1);
-        row("count", count(x), 4, 1, 1, 1, 2, 3, 2, 0, 2, 0, 1, 1, 1, 1, 0, 0);
-        row("wares at places", places(x, 0), 0, 0, -1, -1);
-        row("rides", places(x, 3), 1, 2, -1, -1);
-        row("log", log(x, 0), 2, 0, 0, 0, 0, 2, 0);
-        row("side", side(x, 0), 0, 1, 0, 1, 0, 0, 0, 0, 0, 0, 3, 1, 1, 0);
+        C.row("count", count(x), 4, 1, 1, 1, 2, 3, 2, 0, 2, 0, 1, 1, 1, 1, 0, 0);
+        C.row("wares at places", Check.places(x, 0), 0, 0, -1, -1);
+        C.row("rides", Check.places(x, 3), 1, 2, -1, -1);
+        C.row("log", log(x, 0), 2, 0, 0, 0, 0, 2, 0);
+        C.row("side", side(x, 0), 0, 1, 0, 1, 0, 0, 0, 0, 0, 0, 3, 1, 1, 0);
         C.due("ware(0, 2)", x.ware(0, 2), 2);
         C.due("ware(0, 3)", x.ware(0, 3), 0);
         C.due("ware(0, 4)", x.ware(0, 4), 1);
@@ -94,13 +80,13 @@ public final class TickTest {
         x.ticks(1);
         C.due("JAM back to the SIDE", x.exit(0, 4), 3);
         x.ticks(7);
-        row("rounds", places(x, 2), 2, 2, 1, 1);
-        row("rides", places(x, 3), 9, 10, 7, 8);
-        row("from", places(x, 1), 0, 0, 0, 0);
+        C.row("rounds", Check.places(x, 2), 2, 2, 1, 1);
+        C.row("rides", Check.places(x, 3), 9, 10, 7, 8);
+        C.row("from", Check.places(x, 1), 0, 0, 0, 0);
         C.due("JAM all round", x.exit(0, 4), 4);
         C.due("SHUT yet", x.exit(0, 2), 989);
         C.due("may take again, if it weren't SHUT", x.exit(0, 5), 0);
-        row("side", side(x, 0), 0, 9, 0, 1, 1, 0, 0, 10, 0, 0, 4, 0, 0, 3);
+        C.row("side", side(x, 0), 0, 9, 0, 1, 1, 0, 0, 10, 0, 0, 4, 0, 0, 3);
         C.due("opened", x.shut(0, 0), 989);
         C.due("all five", x.ticks(9), 5);
         C.due("count(10)", x.count(10), 5);
@@ -120,10 +106,10 @@ public final class TickTest {
         C.due("in the next", x.exit(0, 5), 0);
         C.due("the fourth", x.ticks(1), 1);
         C.due("the others", x.ticks(6), 2);
-        row("log 0", log(x, 0), 11, 0, 0, 0, 1, 10, 2);
-        row("log 1", log(x, 1), 8, 0, 0, 0, 2, 6, 1);
-        row("log 2", log(x, 2), 5, 0, 0, 0, 3, 2, 0);
-        row("log 3", log(x, 3), 2, 0, 0, 0, 0, 2, 0);
+        C.row("log 0", log(x, 0), 11, 0, 0, 0, 1, 10, 2);
+        C.row("log 1", log(x, 1), 8, 0, 0, 0, 2, 6, 1);
+        C.row("log 2", log(x, 2), 5, 0, 0, 0, 3, 2, 0);
+        C.row("log 3", log(x, 3), 2, 0, 0, 0, 0, 2, 0);
         C.due("longest WAIT", x.side(0, 13), 3);
         x.ticks(5);
         C.due("nothing is below 0", x.exit(0, 5), 0);
@@ -138,9 +124,9 @@ public final class TickTest {
         C.due("TAKEN", x.ticks(5), 3);
         C.due("at EXIT 0", x.exit(0, 3), 1);
         C.due("at EXIT 1", x.exit(1, 3), 2);
-        row("log 2", log(x, 2), 1, 1, 1, 1, 0, 1, 0);
-        row("log 1", log(x, 1), 3, 1, 1, 0, 1, 2, 0);
-        row("log 0", log(x, 0), 4, 0, 0, 0, 0, 4, 0);
+        C.row("log 2", log(x, 2), 1, 1, 1, 1, 0, 1, 0);
+        C.row("log 1", log(x, 1), 3, 1, 1, 0, 1, 2, 0);
+        C.row("log 0", log(x, 0), 4, 0, 0, 0, 0, 4, 0);
     }
 
     /** What is TAKEN makes room in the same TICK; an ITEM that starts at its own EXIT goes all round. */
@@ -149,14 +135,14 @@ public final class TickTest {
         x.push(0, 0);
         x.push(0, 0);
         C.due("none at once", x.ticks(1), 0);
-        row("at places", places(x, 0), -1, -1, -1, 0, -1);
+        C.row("at places", Check.places(x, 0), -1, -1, -1, 0, -1);
         C.due("all round", x.ticks(5), 1);
-        row("log", log(x, 0), 5, 0, 0, 0, 0, 5, 1);
+        C.row("log", log(x, 0), 5, 0, 0, 0, 0, 5, 1);
         MergeBelts full = Check.of("belt 4;exit 0 1;ware 0;side 0 9 0 1;comes 0 0 1 0;");
         full.ticks(4);
-        row("all full", places(full, 0), 0, 0, 0, 0);
+        C.row("all full", Check.places(full, 0), 0, 0, 0, 0);
         C.due("one out, one in", full.ticks(3), 3);
-        row("still full", places(full, 0), 0, 0, 0, 0);
+        C.row("still full", Check.places(full, 0), 0, 0, 0, 0);
         C.due("nobody waits", full.count(9), 0);
     }
 
@@ -167,28 +153,28 @@ public final class TickTest {
         x.push(0, 0);
         x.push(0, 0);
         x.ticks(1);
-        row("for whom", places(x, 4), -1, 0, 0, -1, -1, -1);
-        row("items", places(x, 0), -1, -1, -1, 0, -1, -1);
-        row("side", side(x, 0), 3, 4, 2, 1, 2, 2, 0, 1, 0, 0, 1, 0, 0, 0);
+        C.row("for whom", Check.places(x, 4), -1, 0, 0, -1, -1, -1);
+        C.row("items", Check.places(x, 0), -1, -1, -1, 0, -1, -1);
+        C.row("side", side(x, 0), 3, 4, 2, 1, 2, 2, 0, 1, 0, 0, 1, 0, 0, 0);
         C.due("count(7)", x.count(7), 2);
         C.due("count(8)", x.count(8), 3);
         x.ticks(1);
-        row("they move", places(x, 4), -1, -1, 0, -1, -1, -1);
+        C.row("they move", Check.places(x, 4), -1, -1, 0, -1, -1, -1);
         C.due("held", x.side(0, 5), 1);
         C.due("one waits", x.side(0, 4), 1);
         x.ticks(1);
-        row("all went", places(x, 4), -1, -1, -1, -1, -1, -1);
+        C.row("all went", Check.places(x, 4), -1, -1, -1, -1, -1, -1);
         C.due("gone", x.side(0, 10), 3);
         C.due("the longest WAIT", x.side(0, 13), 2);
         MergeBelts y = Check.of("belt 6;exit 4 1;ware 0;side 3 4 0 1;side 0 4 5 1;");
         y.push(1, 0);
         y.push(1, 0);
         y.ticks(1);
-        row("the nearest one", places(y, 4), -1, -1, -1, -1, -1, 1);
+        C.row("the nearest one", Check.places(y, 4), -1, -1, -1, -1, -1, 1);
         y.undo();
         y.undo();
         y.ticks(1);
-        row("none for nobody", places(y, 4), -1, -1, -1, -1, -1, -1);
+        C.row("none for nobody", Check.places(y, 4), -1, -1, -1, -1, -1, -1);
     }
 
     /** A gap goes by another SIDE untouched; where nobody waits for it any more it gets free. */
@@ -199,10 +185,10 @@ public final class TickTest {
         x.push(1, 0);
         x.push(1, 0);
         x.ticks(1);
-        row("three for SIDE 1", places(x, 4), -1, 1, 1, 1, -1, -1, -1, -1);
+        C.row("three for SIDE 1", Check.places(x, 4), -1, 1, 1, 1, -1, -1, -1, -1);
         x.push(0, 0);
         x.ticks(1);
-        row("they pass SIDE 0", places(x, 4), -1, -1, 1, 1, -1, -1, -1, -1);
+        C.row("they pass SIDE 0", Check.places(x, 4), -1, -1, 1, 1, -1, -1, -1, -1);
         C.due("SIDE 0 waits", x.side(0, 4), 1);
         C.due("it has not gone", x.side(0, 10), 0);
         x.ticks(1);
@@ -214,7 +200,7 @@ public final class TickTest {
         y.push(0, 0);
         y.push(0, 0);
         y.ticks(1);
-        row("one RESERVED", places(y, 4), -1, -1, -1, 0, -1, -1, -1, -1);
+        C.row("one RESERVED", Check.places(y, 4), -1, -1, -1, 0, -1, -1, -1, -1);
         y.ticks(1);
         C.due("it was used", y.count(7), 0);
         MergeBelts z = Check.of("belt 8;exit 7 1;ware 0;side 0 4 7 1;side 4 9 3 1;");
@@ -224,7 +210,7 @@ public final class TickTest {
         z.ticks(1);
         z.ticks(1);
         z.change(1, 1, 0);
-        row("what is RESERVED stays so whatever REACH becomes", places(z, 4), -1, -1, -1, 1, -1, -1, -1, -1);
+        C.row("what is RESERVED stays so whatever REACH becomes", Check.places(z, 4), -1, -1, -1, 1, -1, -1, -1, -1);
         z.ticks(1);
         C.due("all of SIDE 1 went", z.side(1, 10), 3);
     }
@@ -310,8 +296,8 @@ public final class TickTest {
         C.due("held of SIDE 5", x.side(5, 5), 1);
         C.due("credit of SIDE 4", x.side(4, 6), -4);
         C.due("credit of SIDE 5", x.side(5, 6), 4);
-        row("all twelve come: ROOM 1, LOST 1; ROOM 3, one waits", new int[] {x.ticks(1), x.count(11), x.count(9)}, 0, 4, 4);
-        row("one RESERVED each was used, so one and two more are", new int[] {x.side(4, 5), x.side(5, 5), x.side(4, 10), x.side(5, 10)}, 2, 2, 2, 2);
+        C.row("all twelve come: ROOM 1, LOST 1; ROOM 3, one waits", new int[] {x.ticks(1), x.count(11), x.count(9)}, 0, 4, 4);
+        C.row("one RESERVED each was used, so one and two more are", new int[] {x.side(4, 5), x.side(5, 5), x.side(4, 10), x.side(5, 10)}, 2, 2, 2, 2);
         C.due("all are TAKEN", x.ticks(20), 4 + 4 + 4);
         for (int k = 0; k < 4; k++) {
             C.due("TAKEN of SIDE " + k, x.side(k, 11), 1);
