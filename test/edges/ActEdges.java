@@ -234,6 +234,20 @@ final class ActEdges {
         });
     }
 
+    @Says(in = "Promise 17", value = "The latest ACT is UNDONE: how many still can be; NONE: none can.")
+    static void allRowsOfTheLogAreAsTheyWere(Check c) {
+        c.changesNothing(() -> {
+            MergeBelts x = Check.of("belt 4;exit 1 1;ware 0;side 0 1 0 1;comes 0 0 1 0;");
+            x.ticks(44);
+            return x;
+        }, x -> {
+            x.ticks(500);
+            x.ticks(7);
+            x.undo();
+            x.undo();
+        });
+    }
+
     @Says(in = "Terms 3", value = "the latest 10 can be UNDONE one by one, the latest first")
     static void tenActs(Check c) {
         MergeBelts x = Check.of("belt 4;");

@@ -254,11 +254,20 @@ final class AgainEdges {
 
     @Says(in = "Terms 3", value = "RATE: in d such TICKS how many are TAKEN (at an EXIT, of a SIDE), LOST (of a SIDE).")
     static void rateOfOneTick(Check c) {
-        MergeBelts x = Check.of("belt 4;exit 1 1;exit 2 1;ware 0;side 0 1 0 1;comes 0 0 1 0;comes 0 0 1 0;side 3 1 0 1;");
+        MergeBelts x = Check.of("belt 4;exit 1 1;exit 2 1;ware 0;side 0 1 0 1;comes 0 0 1 0;comes 0 0 1 0;comes 0 0 1 0;side 3 1 0 1;");
         c.due("d", x.again(1), 1);
         c.row("TAKEN at EXITS", new int[] {x.rate(0, 0), x.rate(0, 1), x.rate(0, -1)}, 1, 0, 1);
         c.row("TAKEN of SIDES", new int[] {x.rate(1, 0), x.rate(1, 1), x.rate(1, -1)}, 1, 0, 1);
-        c.row("LOST of SIDES", new int[] {x.rate(2, 0), x.rate(2, 1), x.rate(2, -1)}, 1, 0, 1);
+        c.row("LOST of SIDES", new int[] {x.rate(2, 0), x.rate(2, 1), x.rate(2, -1)}, 2, 0, 2);
+    }
+
+    @Says(in = "Terms 3", value = "RATE: in d such TICKS how many are TAKEN (at an EXIT, of a SIDE), LOST (of a SIDE).")
+    static void rateOfTheLastExitAndSide(Check c) {
+        MergeBelts x = Check.of("belt 12;exit 11 1;exit 1 1;exit 2 1;exit 3 1;exit 4 1;exit 6 1;ware 5;"
+            + "side 11 1 0 1;side 1 1 0 1;side 2 1 0 1;side 3 1 0 1;side 4 1 0 1;side 5 1 0 1;comes 5 0 2 0;comes 5 0 4 0;");
+        c.due("d", x.again(1), 4);
+        c.row("TAKEN", new int[] {x.rate(0, 5), x.rate(0, 4), x.rate(0, -1), x.rate(1, 5), x.rate(1, 4)}, 2, 0, 2, 2, 0);
+        c.row("LOST", new int[] {x.rate(2, 5), x.rate(2, 4), x.rate(2, -1)}, 1, 0, 1);
     }
 
     /** While the EXIT is SHUT all gets full and one is LOST in each TICK: that is ahead of t, and isn't counted. */

@@ -99,6 +99,21 @@ final class KeepEdges {
     }
 
     @Says(in = "Promise 28", value = "All is as it was kept (no ACTS are kept then): true")
+    static void allRowsOfTheLogAreAsTheyWere(Check c) {
+        MergeBelts x = busy();
+        x.ticks(200);
+        x.image();
+        x.ticks(500);
+        x.back();
+        c.due("rows", x.count(12), 40);
+        MergeBelts y = busy();
+        y.ticks(200);
+        for (int ago = 0; ago < 40; ago++) {
+            c.due("TICK of log(" + ago + ", 0)", x.log(ago, 0), y.log(ago, 0));
+        }
+    }
+
+    @Says(in = "Promise 28", value = "All is as it was kept (no ACTS are kept then): true")
     static void backToAnotherBelt(Check c) {
         MergeBelts x = busy();
         x.image();

@@ -129,6 +129,16 @@ final class LookEdges {
         c.row("WARE 1", new int[] {x.ware(1, 1), x.ware(1, 2), x.ware(1, 3), x.ware(1, 4)}, 1, 0, 0, 0);
     }
 
+    @Says(in = "Promise 8", value = "2 how many of it are at PLACES, 3 wait, 4 were TAKEN")
+    static void aWareAtAllPlaces(Check c) {
+        MergeBelts x = Check.of("belt 4;exit 0 1;ware 0;side 0 9 0 1;");
+        Check.push(x, 9, 0, 0);
+        for (int k = 1; k <= 4; k++) {
+            x.ticks(1);
+            c.row("at PLACES, wait", new int[] {x.ware(0, 2), x.ware(0, 3), x.count(6)}, k, 9 - k, k);
+        }
+    }
+
     @Says(in = "Promise 8", value = "NoSuchElementException: no such WARE, another what.")
     static void noSuchWare(Check c) {
         MergeBelts x = one();
@@ -182,6 +192,29 @@ final class LookEdges {
         Check.push(x, 18, 0, 0);
         x.push(0, 2);
         c.row("0, 1, 18, 19", new int[] {x.waiting(0, 0), x.waiting(0, 1), x.waiting(0, 18), x.waiting(0, 19)}, 1, 0, 0, 2);
+    }
+
+    /** At SIDE k and at k ITEMS behind it WARE k, else WARE 7. */
+    @Says(in = "Promise 10", value = "The WARE of the k-th ITEM that waits at a SIDE (0 on).")
+    static void allSidesAreFull(Check c) {
+        MergeBelts x = Check.of("belt 9;exit 8 1;" + "ware 0;".repeat(8)
+            + "side 0 20 0 1;side 1 20 0 1;side 2 20 0 1;side 3 20 0 1;side 4 20 0 1;side 5 20 0 1;");
+        x.ticks(3);
+        for (int side = 0; side < 6; side++) {
+            for (int k = 0; k < 20; k++) {
+                x.push(side, k == 19 - side ? side : 7);
+            }
+        }
+        c.due("who waits", x.count(9), 120);
+        x.ticks(1);
+        for (int side = 0; side < 6; side++) {
+            c.row("one of " + side + " went", new int[] {x.side(side, 4), x.side(side, 10), x.side(side, 7)}, 19, 1, 1);
+            for (int k = 0; k < 19; k++) {
+                c.due("waiting(" + side + ", " + k + ")", x.waiting(side, k), k == 18 - side ? side : 7);
+            }
+            int last = side;
+            c.noSuch("waiting(" + side + ", 19)", () -> x.waiting(last, 19));
+        }
     }
 
     @Says(in = "Promise 10", value = "NoSuchElementException: no such SIDE, ITEM.")

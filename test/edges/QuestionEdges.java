@@ -163,6 +163,24 @@ final class QuestionEdges {
         c.asked(x, "many ware<0 and from<0 and round<0 and rides<0 and held<0 and exit<0 and side<0", 3);
     }
 
+    /** At PLACE 2 where EXIT 3 is: WARE 3 of SIDE 1, in its tenth TICK, of two ROUNDS. */
+    @Says(in = "Terms 3", value = "'ware' (of its ITEM; -1 without), 'from' (its ITEM's SIDE; -1), 'round' (its ROUNDS; -1)")
+    static void ofAnItemWhereNoTwoAreTheSame(Check c) {
+        MergeBelts x = Check.of("belt 4;exit 0 1;exit 1 1;exit 3 1;ware 0;ware 0;ware 0;ware 0;exit 2 1;"
+            + "side 0 1 0 1;side 1 9 1 1;");
+        x.shut(0, 99);
+        Check.push(x, 1, 1, 3);
+        x.ticks(10);
+        String[] words = "place ware from round rides held exit side".split(" ");
+        int[] due = {2, 3, 1, 2, 10, -1, 3, -1};
+        for (int k = 0; k < words.length; k++) {
+            for (int value = 0; value < 12; value++) {
+                c.asked(x, "many place=2 and " + words[k] + "=" + value, value == due[k] ? 1 : 0);
+            }
+            c.asked(x, "many place=2 and " + words[k] + "<0", due[k] == -1 ? 1 : 0);
+        }
+    }
+
     @Says(in = "Terms 3", value = "'rides' (TICKS since it went to THE BELT; -1), 'held' (the SIDE for which it is RESERVED; -1)")
     static void ofAGap(Check c) {
         MergeBelts x = Check.of("belt 4;exit 0 1;ware 0;side 2 3 1 1;");
@@ -241,6 +259,50 @@ final class QuestionEdges {
         c.refusedAsk("many 1^!1", 1);
         c.refusedAsk("many not^", 1);
         c.refusedAsk("many ^late=1", 1);
+    }
+
+    @Says(in = "Terms 3", value = "FACT: 'not' FACT | '{' TEST '}' | VALUE ('<' | '=' | '>') VALUE.")
+    static void lessAndTheSameAndMore(Check c) {
+        MergeBelts x = new MergeBelts();
+        String[] facts = {"1<2", "2<2", "3<2", "1=2", "2=2", "3=2", "1>2", "2>2", "3>2"};
+        boolean[] holds = {true, false, false, false, true, false, false, false, true};
+        for (int k = 0; k < facts.length; k++) {
+            c.asked(x, "many " + facts[k], holds[k] ? 4 : 0);
+            c.asked(x, "many not " + facts[k], holds[k] ? 0 : 4);
+            c.asked(x, "many 1=1 and " + facts[k], holds[k] ? 4 : 0);
+            c.asked(x, "many " + facts[k] + " or 1=2", holds[k] ? 4 : 0);
+        }
+    }
+
+    @Says(in = "Terms 3", value = "TEST: BOTH ('or' BOTH)*.")
+    static void andAheadOfOr(Check c) {
+        MergeBelts x = new MergeBelts();
+        c.asked(x, "many place=1 or place<3 and place>1", 2);
+        c.asked(x, "many place<3 and place>1 or place=1", 2);
+        c.asked(x, "many {place=1 or place<3} and place>1", 1);
+        c.asked(x, "many not place=1 and place<2", 1);
+        c.asked(x, "many not {place=1 and place<2}", 3);
+    }
+
+    @Says(in = "Promise 26", value = "its answer; -1000000000 less the FAULT.")
+    static void aQuestionBehindAFaultInBraces(Check c) {
+        MergeBelts x = new MergeBelts();
+        for (int k = 0; k < 20; k++) {
+            c.due("a FAULT", Check.ask(x, "many 1=2 or not {1=1 and not {1=1 or {not 10000"), -1000000002);
+            c.asked(x, "many {not {not {not place=1}}}", 3);
+            c.due("a FAULT", Check.ask(x, "many {{{{{{1=1"), -1000000001);
+            c.due("the end still", Check.ask(x, "many 1=1}"), -1000000001);
+        }
+    }
+
+    @Says(in = "Promise 26", value = "its answer; -1000000000 less the FAULT.")
+    static void manyLongQuestions(Check c) {
+        MergeBelts x = new MergeBelts();
+        String text = "many place=1" + " or place=2".repeat(17);
+        c.due("bytes", text.length(), 199);
+        for (int k = 0; k < 40; k++) {
+            c.asked(x, k % 2 == 0 ? text : text.replace('2', '1'), k % 2 == 0 ? 2 : 1);
+        }
     }
 
     @Says(in = "Terms 3", value = "(3: the 7th of 'not', '{' that are open at once, 'not' till its FACT ends)")

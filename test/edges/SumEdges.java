@@ -68,6 +68,36 @@ final class SumEdges {
         }
     }
 
+    /** Behind a TICK in which both might have PLACE 3: SIDE 1 waits with three, of which two are URGENT. */
+    @Says(in = "Terms 1", value = "'credit' | 'share' | 'waits' | 'room' | 'held' | 'late' | 'urgent' | 'side'")
+    static void partsOfABusySide(Check c) {
+        String[] words = "credit share waits room held late urgent side".split(" ");
+        int[] first = {0, 5, 0, 8, 0, 0, 0, 1};
+        int[] holder = {0, 1, 1, 0, 0, 0, 1, 1};
+        int[] due = {5, 5, 3, 8, 0, 1, 2, 1};
+        for (int k = 0; k < words.length; k++) {
+            MergeBelts x = Check.of("belt 8;exit 7 1;ware 0 urgent;ware 0;side 5 9 2 4;side 4 8 1 5;turns side*0+" + words[k] + ";");
+            c.due("RANK at first", x.side(1, 9), first[k]);
+            Check.push(x, 2, 0, 0);
+            x.push(1, 1);
+            Check.push(x, 2, 1, 0);
+            x.push(1, 1);
+            x.ticks(1);
+            c.due("PLACE 3 by " + words[k], x.place(3, 4), holder[k]);
+            c.due("RANK by " + words[k], x.side(1, 9), due[k]);
+        }
+    }
+
+    @Says(in = "Terms 1", value = "'(' SUM ')'")
+    static void bracketsFirst(Check c) {
+        worth(c, "2*(3+4)", 14);
+        worth(c, "(3+4)*2", 14);
+        worth(c, "10-(3-2)", 9);
+        worth(c, "10-(3-(2-(1-(5-(4-9)))))", 10 - (3 - (2 - (1 - (5 - (4 - 9))))));
+        worth(c, "2*(2*(2*(2*(2*(2*(2+1)))))+1)", 2 * (2 * (2 * (2 * (2 * (2 * (2 + 1))))) + 1));
+        worth(c, "(7)", 7);
+    }
+
     @Says(in = "Terms 1", value = "'(' SUM ')'")
     static void emptyBrackets(Check c) {
         c.refused("belt 6;turns (^);", 1);

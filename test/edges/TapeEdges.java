@@ -126,8 +126,8 @@ final class TapeEdges {
     }
 
     private static MergeBelts busy() {
-        MergeBelts x = Check.of("belt 5;exit 1 1;ware 0;side 0 2 3 1;comes 0 0 1 0;turns late;");
-        x.ticks(3);
+        MergeBelts x = Check.of("belt 5;exit 1 2;ware 0;side 0 9 3 1;side 4 3 4 2;comes 0 0 1 0;comes 1 0 1 0;turns late;");
+        x.ticks(7);
         x.push(0, 0);
         return x;
     }
@@ -135,13 +135,15 @@ final class TapeEdges {
     @Says(in = "Promise 3", value = "all anew (no ACTS are kept then): N.")
     static void allAnew(Check c) {
         MergeBelts x = busy();
-        c.due("belt", Check.belt(x, "belt 4;exit 0 1;ware 0;side 0 1 0 1;"), 4);
-        int[] due = {4, 1, 1, 1, 0, 0, 0, 0, 4, 0, 0, 0, 0, 0, 0, 0};
+        x.shut(0, 9);
+        c.due("belt", Check.belt(x, "belt 4;exit 0 1;ware 0;side 0 1 0 1;side 1 1 0 1;"), 4);
+        int[] due = {4, 1, 1, 2, 0, 0, 0, 0, 4, 0, 0, 0, 0, 0, 0, 0};
         for (int what = 0; what < 16; what++) {
             c.due("count(" + what + ")", x.count(what), due[what]);
         }
         for (int what = 4; what < 14; what++) {
             c.due("side(0, " + what + ")", x.side(0, what), 0);
+            c.due("side(1, " + what + ")", x.side(1, what), 0);
         }
         c.row("exit(0, 2), (0, 3), (0, 5), ware(0, 4)", new int[] {x.exit(0, 2), x.exit(0, 3), x.exit(0, 5), x.ware(0, 4)}, 0, 0, 0, 0);
         c.due("undo()", x.undo(), -1);
@@ -149,12 +151,50 @@ final class TapeEdges {
 
     @Says(in = "Promise 3", value = "all anew (no ACTS are kept then): N.")
     static void theSameTextTwice(Check c) {
-        String text = "belt 5;exit 1 9;ware 0;side 0 2 3 1;comes 0 0 1 0;turns late;";
+        String text = "belt 5;exit 1 9;ware 0;side 0 2 3 1;side 4 3 4 2;comes 0 0 1 0;comes 1 0 1 0;";
         MergeBelts x = Check.of(text);
+        x.ticks(4);
+        c.due("credits aren't 0", x.side(0, 6) != 0 && x.side(1, 6) != 0);
         x.shut(0, 99);
         x.ticks(30);
         Check.belt(x, text);
         c.due("all as in a new object", Look.of(x).equals(Look.of(Check.of(text))));
+        x.ticks(30);
+        MergeBelts y = Check.of(text);
+        y.ticks(30);
+        c.due("and it goes on so", Look.of(x).equals(Look.of(y)));
+    }
+
+    @Says(in = "Promise 3", value = "all anew (no ACTS are kept then): N.")
+    static void turnsOfATextAhead(Check c) {
+        String text = "belt 4;exit 2 1;ware 0;side 0 3 0 1;side 1 3 0 1;comes 0 0 1 0;";
+        MergeBelts x = Check.of(text + "turns late;");
+        for (String turns : new String[] {"", "turns waits;"}) {
+            Check.belt(x, text + turns);
+            x.ticks(6);
+            x.push(1, 0);
+            c.due("'turns' ask no more for late", x.again(0), 0);
+            c.due("RANK", x.side(1, 9), turns.isEmpty() ? 0 : 1);
+        }
+    }
+
+    @Says(in = "Promise 3", value = "all anew (no ACTS are kept then): N.")
+    static void manyTextsWithLongSums(Check c) {
+        MergeBelts x = new MergeBelts();
+        for (int k = 1; k <= 9; k++) {
+            c.due("belt", Check.belt(x, "belt 4;side 0 1 0 1;turns " + k + "+1".repeat(236) + ";"), 4);
+            c.due("RANK", x.side(0, 9), k + 236);
+        }
+    }
+
+    @Says(in = "Promise 3", value = "-10 less the FAULT (nothing else changes).")
+    static void aTextBehindAFaultInABracket(Check c) {
+        MergeBelts x = new MergeBelts();
+        for (int k = 0; k < 20; k++) {
+            c.due("a FAULT", Check.belt(x, "belt 4;side 0 1 0 1;turns 1+(2*(3-(4*(5+(6*10000"), -12);
+            c.due("belt", Check.belt(x, "belt 4;side 0 1 0 1;turns 2*(3+(4*(5-(6-(7*(8-1))))));"), 4);
+            c.due("RANK", x.side(0, 9), 2 * (3 + 4 * (5 - (6 - 49))));
+        }
     }
 
     @Says(in = "Promise 3", value = "-10 less the FAULT (nothing else changes).")

@@ -51,6 +51,23 @@ final class TextEdges {
     }
 
     @Says(in = "Terms 1", value = "a WORD is a row of small letters")
+    static void anotherFirstOrLastLetter(Check c) {
+        String text = "belt 9;exit 0 1;ware 0 urgent;side 0 1 0 1;comes 0 0 1 0;turns credit+share+waits+room+held+late+urgent+side;";
+        c.stands(text, 9);
+        for (int k = 0; k < text.length(); k++) {
+            boolean letter = Character.isLetter(text.charAt(k));
+            int from = k;
+            while (letter && from > 0 && Character.isLetter(text.charAt(from - 1))) {
+                from--;
+            }
+            boolean edge = letter && (from == k || !Character.isLetter(text.charAt(k + 1)));
+            if (edge) {
+                c.refused(text.substring(0, k) + "q" + text.substring(k + 1), 1, from);
+            }
+        }
+    }
+
+    @Says(in = "Terms 1", value = "a WORD is a row of small letters")
     static void aLetterTooFewOrTooMany(Check c) {
         c.refused("^bel 6;", 1);
         c.refused("^belts 6;", 1);

@@ -117,6 +117,24 @@ final class TickEdges {
         c.due("ROUNDS", x.log(0, 6), 1);
     }
 
+    @Says(in = "Terms 2", value = "(c) At each EXIT, by numbers")
+    static void twoAreTakenInOneTick(Check c) {
+        MergeBelts x = Check.of("belt 6;exit 4 1;exit 1 1;ware 0;ware 1;side 3 1 0 1;side 0 1 0 1;");
+        x.push(0, 0);
+        x.push(1, 1);
+        c.due("both in TICK 1", x.ticks(2), 2);
+        c.row("EXIT 1 is the latest", new int[] {x.log(0, 0), x.log(0, 1), x.log(1, 0), x.log(1, 1)}, 1, 1, 1, 0);
+    }
+
+    @Says(in = "Terms 2", value = "(c) At each EXIT, by numbers")
+    static void aFullLogWhereTwoAreTakenInOneTick(Check c) {
+        MergeBelts x = Check.of("belt 6;exit 4 1;exit 1 1;ware 0;ware 1;side 3 1 0 1;side 0 1 0 1;comes 0 0 1 0;comes 1 1 1 0;");
+        c.due("two in each of TICKS 1 to 21", x.ticks(22), 42);
+        c.due("rows", x.count(12), 40);
+        c.row("the latest", new int[] {x.log(0, 0), x.log(0, 1), x.log(1, 0), x.log(1, 1)}, 21, 1, 21, 0);
+        c.row("the oldest", new int[] {x.log(38, 0), x.log(38, 1), x.log(39, 0), x.log(39, 1)}, 2, 1, 2, 0);
+    }
+
     @Says(in = "Terms 2", value = "if the EXIT isn't SHUT")
     static void shutForTheTickInWhichItComes(Check c) {
         MergeBelts x = Check.of("belt 4;exit 2 1;ware 0;side 1 2 0 1;");
@@ -290,9 +308,38 @@ final class TickEdges {
     @Says(in = "Terms 2", value = "its RIDE: from then to when it was TAKEN")
     static void theShortestRide(Check c) {
         MergeBelts x = Check.of("belt 4;exit 1 1;ware 0;side 0 2 0 1;");
+        x.ticks(7);
         x.push(0, 0);
-        x.ticks(2);
-        c.due("RIDE", x.log(0, 5), 1);
+        x.ticks(1);
+        c.due("TICKS since it went", x.place(0, 3), 1);
+        x.ticks(1);
+        c.row("TICK, WAIT, RIDE", new int[] {x.log(0, 0), x.log(0, 4), x.log(0, 5)}, 8, 0, 1);
+    }
+
+    @Says(in = "Terms 2", value = "its RIDE: from then to when it was TAKEN")
+    static void aRideOfManyRounds(Check c) {
+        MergeBelts x = Check.of("belt 4;exit 1 1;ware 0;side 0 2 0 1;");
+        x.ticks(3);
+        x.push(0, 0);
+        x.shut(0, 999);
+        x.ticks(500);
+        x.ticks(499);
+        c.due("TICKS since it went", x.place(2, 3), 999);
+        x.ticks(4);
+        c.row("TICK, RIDE, ROUNDS", new int[] {x.log(0, 0), x.log(0, 5), x.log(0, 6)}, 1004, 1001, 250);
+    }
+
+    @Says(in = "Terms 2", value = "TICK, EXIT, WARE, SIDE, WAIT, RIDE, ROUNDS.")
+    static void theLastExitWareAndSideInTheLog(Check c) {
+        MergeBelts x = Check.of("belt 9;exit 0 1;exit 1 1;exit 2 1;exit 3 1;exit 4 1;exit 8 1;" + "ware 0;".repeat(7) + "ware 5;"
+            + "side 0 1 0 1;side 1 1 0 1;side 2 1 0 1;side 3 1 0 1;side 4 1 0 1;side 5 2 0 1;");
+        Check.push(x, 2, 5, 7);
+        x.ticks(5);
+        int[] row = new int[7];
+        for (int what = 0; what < 7; what++) {
+            row[what] = x.log(0, what);
+        }
+        c.row("log(0)", row, 4, 5, 7, 5, 1, 3, 0);
     }
 
     @Says(in = "Terms 2", value = "THE LOG: the latest 40 that were TAKEN")

@@ -180,6 +180,14 @@ final class TrialEdges {
     }
 
     @Says(in = "Terms 3", value = "HEAVIEST: the PLACE with the greatest (of several the least).")
+    static void eachPlaceAlone(Check c) {
+        for (int p = 0; p < 4; p++) {
+            MergeBelts x = Check.of("belt 4;exit " + (p + 1) % 4 + " 1;ware 0;side " + p + " 1 0 1;comes 0 0 7 0;");
+            c.due("heaviest()", x.heaviest(), p);
+        }
+    }
+
+    @Says(in = "Terms 3", value = "HEAVIEST: the PLACE with the greatest (of several the least).")
     static void theLastPlaceAlone(Check c) {
         MergeBelts x = Check.of("belt 9;exit 0 1;exit 6 1;ware 0;ware 1;side 8 1 0 1;side 3 1 0 1;comes 0 0 29 0;comes 1 1 30 0;");
         c.due("1 by 29 is more than 1 by 30", x.heaviest(), 8);
@@ -219,6 +227,16 @@ final class TrialEdges {
         c.due("whatever ROOM it has", x.leastRoom(0, 9), 20);
     }
 
+    @Says(in = "Terms 3", value = "(fewer than wait now can't be)")
+    static void twentyWaitAndOneComes(Check c) {
+        MergeBelts x = Check.of("belt 4;exit 1 1;ware 0;side 0 20 0 1;comes 0 0 30 1;");
+        Check.push(x, 20, 0, 0);
+        c.due("one went in TICK 0", x.leastRoom(0, 29), 20);
+        MergeBelts y = Check.of("belt 4;exit 1 1;ware 0;side 0 20 0 1;comes 0 0 30 0;");
+        Check.push(y, 20, 0, 0);
+        c.due("none had gone", y.leastRoom(0, 1), -1);
+    }
+
     @Says(in = "Terms 3", value = "LEAST ROOM of a SIDE by n TICKS (1 to 500)")
     static void leastRoomBy1And500Ticks(Check c) {
         MergeBelts x = Check.of("belt 4;exit 1 1;ware 0;side 0 1 0 1;" + "comes 0 0 30 0;".repeat(3) + "comes 0 0 2 499;".repeat(5));
@@ -252,6 +270,15 @@ final class TrialEdges {
         c.due("without REACH", x.side(1, 2), 0);
         x.ticks(100);
         c.due("only those of TICKS 0 and 1 went", x.side(1, 10), 2);
+    }
+
+    /** All is full from SIDE 0 at 3 on when its first one comes to SIDE 1 in TICK 38; the gap of that TICK comes 39 later. */
+    @Says(in = "Terms 3", value = "the REACH (0 to N - 1) by which most of its ITEMS go to THE BELT in a TRIAL")
+    static void aBestReachOf39(Check c) {
+        MergeBelts x = Check.of("belt 40;exit 2 1;ware 0;side 3 1 0 1;side 1 20 0 1;comes 0 0 1 0;comes 1 0 1 0;");
+        c.due("by TICK 76", x.bestReach(1, 77), 0);
+        c.due("by TICK 77", x.bestReach(1, 78), 39);
+        c.due("by TICK 199", x.bestReach(1, 200), 39);
     }
 
     @Says(in = "Terms 3", value = "the REACH (0 to N - 1) by which most of its ITEMS go to THE BELT in a TRIAL (of several the least)")
@@ -308,6 +335,30 @@ final class TrialEdges {
         c.due("by 6 TICKS", x.without(1, 6), -1);
         c.due("by 16 TICKS", x.without(1, 16), -1);
         c.due("by 17 TICKS the second one is TAKEN too", x.without(1, 17), 0);
+    }
+
+    @Says(in = "Terms 3", value = "none comes to it any more, and none that waits there goes on")
+    static void nobodyWaitsAndNobodyComes(Check c) {
+        MergeBelts x = Check.of("belt 4;exit 2 1;ware 0;side 0 9 3 1;side 1 9 3 1;comes 1 0 1 0;");
+        c.due("without(0, 500)", x.without(0, 500), 0);
+    }
+
+    @Says(in = "Terms 3", value = "none comes to it any more, and none that waits there goes on")
+    static void whoWaitsAtFirst(Check c) {
+        // SIDE 0's only one passes SIDE 1 in TICK 1 and is TAKEN in TICK 2, so that SIDE 1's isn't ahead of TICK 11
+        MergeBelts x = Check.of("belt 4;exit 2 9;ware 0;side 0 9 0 1;side 1 9 0 1;comes 1 0 30 1;");
+        x.push(0, 0);
+        c.due("none of SIDE 1 by TICK 1", x.without(0, 2), 0);
+        c.due("TAKEN in TICK 2 instead of that of SIDE 0", x.without(0, 3), 1);
+        c.due("one more by TICK 10", x.without(0, 11), 1);
+        c.due("not by TICK 11", x.without(0, 12), 0);
+    }
+
+    @Says(in = "Terms 3", value = "none comes to it any more, and none that waits there goes on")
+    static void whoComesInTheFirstTick(Check c) {
+        MergeBelts x = Check.of("belt 4;exit 2 1;ware 0;side 0 9 0 1;side 1 9 0 1;comes 0 0 1 0;comes 1 0 1 1;");
+        c.due("SIDE 1 may go in TICK 1 without SIDE 0 alone", x.without(0, 3), 1);
+        c.due("one more in each TICK", x.without(0, 500), 498);
     }
 
     @Says(in = "Terms 3", value = "how many ITEMS of all others are TAKEN more")
